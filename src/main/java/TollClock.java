@@ -748,7 +748,7 @@ public final class TollClock {
         if (docket.claims.periods.count >= MAX_OCCURRENCES) {
             return BAD_STATE;
         }
-        return docket.claims.addOccurrence(rule, day, docket.rules);
+        return docket.claims.keepOccurrence(rule, day, docket.rules);
     }
 
     private int tryLinkOccurrences(int one, int other) {
@@ -1385,7 +1385,7 @@ public final class TollClock {
             return claim >= 0 && claim < count;
         }
 
-        int addOccurrence(int rule, int day, Rules all) {
+        int keepOccurrence(int rule, int day, Rules all) {
             if (periods.count >= MAX_OCCURRENCES) {
                 return BAD_STATE;
             }
