@@ -6,6 +6,7 @@ public final class ProgramsTest {
         promise57WriteDeadline();
         promise58CharAt();
         promise59IsConsistent();
+        promise59FullDocket();
         promise60Run();
         promise60AllOrNothing();
         promise60FullBuffer();
@@ -99,6 +100,47 @@ public final class ProgramsTest {
             }
             Check.is("consistent " + number, true, clock.isConsistent());
         }
+    }
+
+    /** As many of everything as there can be. */
+    private static void promise59FullDocket() {
+        TollClock clock = Check.withParties("a", "b", "c", "d", "e", "f", "g", "h");
+        for (int number = 0; number < 40; number++) {
+            clock.addHoliday(number * 9);
+        }
+        for (int number = 0; number < 12; number++) {
+            clock.advance(3);
+            clock.stayParty(number % 8, 1 << number % 8);
+            clock.advance(1);
+            clock.lift(number);
+        }
+        for (int number = 0; number < 30; number++) {
+            clock.serve(number % 8, number % 8, 'a');
+            clock.extendByConsent(number, 1);
+            clock.extendByConsent(number, 2);
+            for (int count = 1; count <= 3; count++) {
+                clock.extendByOrder(number, 10 * count);
+            }
+        }
+        for (int number = 0; number < 8; number++) {
+            clock.addOccurrence(48 - number, number);
+        }
+        for (int claim = 0; claim < 20; claim++) {
+            clock.fileClaim(claim % 8, claim % 8);
+        }
+        Check.is("full docket", true, clock.isConsistent());
+        Check.is("parties", 8, clock.parties());
+        Check.is("first open", 0, clock.openAt(0));
+        Check.is("last open", 23, clock.openAt(29));
+        Check.fails("none behind it", NoSuchElementException.class, () -> clock.openAt(30));
+        Check.is("overdue", 0, clock.overdue());
+        // Moved ends bring the deadlines of the rules 1 and 2 together.
+        Check.is("due day of rule 2", clock.due(1), clock.due(2));
+        Check.is("busiest day", clock.due(2), clock.busiestDay());
+        // The rules 0 to 5 four times, 6 and 7 three times; each with 14 days and 63 granted ones.
+        Check.is("mean of the days left", (4 * 210 + 3 * 150 + 30 * 77) / 30.0, clock.meanDaysLeft());
+        Check.is("claims of party 3", 3, clock.timelyClaims(3));
+        Check.is("extension", 63, clock.extensionDays(29));
     }
 
     private static void promise60Run() {
@@ -261,6 +303,18 @@ public final class ProgramsTest {
     }
 
     private static void promise63EachChange() {
+        int count = changes(new TollClock()).length;
+        for (int number = 0; number < count; number++) {
+            TollClock clock = withSomeOfAll();
+            String before = picture(clock);
+            changes(clock)[number].answer();
+            Check.is("change " + number + " is seen", false, before.equals(picture(clock)));
+            Check.is("undo of change " + number, 7, clock.undo());
+            Check.is("after undo of change " + number, before, picture(clock));
+        }
+    }
+
+    private static TollClock withSomeOfAll() {
         TollClock clock = Check.withParties("a");
         clock.serve(0, 0, 'p');
         clock.stayAll(1);
@@ -268,21 +322,17 @@ public final class ProgramsTest {
         clock.addOccurrence(0, 1);
         clock.addHoliday(9);
         clock.fileClaim(0, 0);
-        Check.type(clock, "b");
-        Check.Call[] changes = {clock::addParty, () -> clock.advance(3), () -> clock.addHoliday(4),
+        return clock;
+    }
+
+    /** One change of each kind that can be undone. */
+    private static Check.Call[] changes(TollClock clock) {
+        return new Check.Call[] {() -> Check.party(clock, "b"), () -> clock.advance(3), () -> clock.addHoliday(4),
             () -> clock.removeHoliday(9), () -> clock.setRule(0, 3, true), () -> clock.setServiceDays('p', 9),
             () -> clock.serve(0, 1, 'm'), () -> clock.extendByConsent(0, 4), () -> clock.extendByOrder(0, 5),
             () -> clock.file(0), () -> clock.strike(0), () -> clock.stayParty(0, 2), () -> clock.stayAll(2),
             () -> clock.lift(0), () -> clock.addOccurrence(0, 2), () -> clock.linkOccurrences(0, 1),
             () -> clock.fileClaim(0, 1), () -> clock.amendClaim(0, 1), () -> Check.run(clock, "day;stay 1")};
-        String before = picture(clock);
-        for (int number = 0; number < changes.length; number++) {
-            changes[number].answer();
-            Check.is("change " + number + " is seen", false, before.equals(picture(clock)));
-            Check.is("undo of change " + number, 7, clock.undo());
-            Check.is("after undo of change " + number, before, picture(clock));
-            clock.setRule(7, 80, true);
-        }
     }
 
     /** What can be seen of a docket, but for what an undone change leaves. */
