@@ -9,6 +9,7 @@ public final class DeadlinesTest {
         promises26And27Due();
         promises26And27CourtDaysAndMoves();
         promises26And27Stays();
+        promises26And27MoveOverStays();
         promises26And27LastDay();
         promises28And29DaysLeft();
         promises28And29StopsAndMoves();
@@ -150,6 +151,32 @@ public final class DeadlinesTest {
         clock.stayAll(255);
         clock.lift(2);                       // it stops nothing
         checkDue(clock, 2, 15);
+    }
+
+    private static void promises26And27MoveOverStays() {
+        TollClock clock = Check.withParties("a");
+        clock.setRule(0, 5, false);
+        clock.serve(0, 0, 'p');
+        clock.advance(5);
+        clock.stayAll(1);
+        clock.advance(2);
+        clock.lift(0);                       // 6 and 7
+        clock.stayAll(1);
+        clock.advance(2);
+        clock.lift(1);                       // 8 and 9, with no gap between
+        checkDue(clock, 0, 10);
+        clock.addHoliday(10);
+        clock.advance(1);
+        clock.stayAll(1);
+        clock.advance(1);
+        clock.lift(2);                       // 11
+        checkDue(clock, 0, 14);              // 10 a holiday, 12 and 13 no court days
+        clock.stayAll(1);
+        clock.advance(4);
+        clock.stayAll(1);
+        clock.lift(3);                       // 12 to 15, the other one onwards
+        checkNoDue(clock, 0);
+        checkLeft(clock, 0, 0);
     }
 
     private static void promises26And27LastDay() {

@@ -7,6 +7,7 @@ public final class StaysTest {
         promise43StaysInForce();
         promise44IsStopped();
         promises45And46StoppedDays();
+        promises45And46LongStays();
         promises45And46WrongArguments();
         promises45And46SetsAndParties();
         Check.end();
@@ -147,6 +148,24 @@ public final class StaysTest {
         checkStoppedDays(clock, 0, 4999, 4999, 1);
         checkStoppedDays(clock, 0, 40, 41, 1);
         checkStoppedDays(clock, 0, 64, 191, 128);
+    }
+
+    /** Stays that begin and end near the multiples of 64, where marking passes to the next bits. */
+    private static void promises45And46LongStays() {
+        for (int first = 62; first <= 66; first++) {
+            for (int last = 125; last <= 130; last++) {
+                TollClock clock = Check.withParties("a");
+                clock.serve(0, 0, 'p');
+                clock.advance(first - 1);
+                clock.stayAll(1);
+                clock.advance(last - first + 1);
+                clock.lift(0);
+                checkStoppedDays(clock, 0, 0, 4999, last - first + 1);
+                checkStoppedDays(clock, 0, first, last, last - first + 1);
+                checkStoppedDays(clock, 0, 0, first, 1);
+                checkStoppedDays(clock, 0, last, 300, 1);
+            }
+        }
     }
 
     private static void promises45And46WrongArguments() {
