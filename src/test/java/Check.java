@@ -70,6 +70,10 @@ final class Check {
         return clock;
     }
 
+    static int wrong() {
+        return wrong;
+    }
+
     static void end() {
         System.out.println(checks + " checks, " + wrong + " wrong");
         if (wrong != 0) {

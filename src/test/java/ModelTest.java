@@ -8,7 +8,8 @@ import java.util.Random;
  */
 public final class ModelTest {
     private static final int RUNS = 1500;
-    private static final int CALLS = 512;
+    // The last of the 512 calls asks for the invariants.
+    private static final int CALLS = 511;
     private static final String WAYS = "pema";
 
     private final Random random;
