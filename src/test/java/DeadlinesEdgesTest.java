@@ -543,6 +543,10 @@ public final class DeadlinesEdgesTest {
     }
 
     private static void earliestOfTheBusiest() {
+        Check.is("one alone", 3, withLengths(3).busiestDay());
+        Check.is("the first and another", 3, withLengths(3, 3, 2).busiestDay());
+        Check.is("the last and another", 3, withLengths(3, 2, 3).busiestDay());
+        Check.is("thirty", 4, withDeadlines(30).busiestDay());
         Check.is("each day once", 1, withLengths(3, 2, 1).busiestDay());
         Check.is("two days twice", 2, withLengths(3, 2, 1, 3, 2).busiestDay());
         Check.is("the later one more often", 3, withLengths(2, 3, 3, 2, 3).busiestDay());
@@ -562,6 +566,7 @@ public final class DeadlinesEdgesTest {
 
     private static void meanIsNotRounded() {
         Check.is("of one", 4.0, withLengths(4).meanDaysLeft());
+        Check.is("of thirty", 4.0, withDeadlines(30).meanDaysLeft());
         Check.is("halves", 1.5, withLengths(1, 2).meanDaysLeft());
         Check.is("thirds", 4.0 / 3.0, withLengths(1, 1, 2).meanDaysLeft());
         Check.is("thirds below one", 0.0 + 2.0 / 3.0, meanAfterOneDay());

@@ -243,11 +243,13 @@ public final class PartiesEdgesTest {
     }
 
     private static void pairsAreNotReversed() {
-        TollClock clock = Check.withParties(PAIR, EIGHT_PAIRS, "a" + PAIR + "b\ud800\udc00", "\ud7ff\udbff\udfff\ue000");
+        TollClock clock = Check.withParties(PAIR, EIGHT_PAIRS, "a" + PAIR + "b\ud800\udc00", "\ud7ff\udbff\udfff\ue000",
+                "\uffff\ud800\udc00\ufffe");
         checkLine(clock, 0, PAIR);
         checkLine(clock, 1, PAIR + PAIR + PAIR + PAIR + "\udbff\udfff\udbff\udc00\ud800\udfff\ud800\udc00");
         checkLine(clock, 2, "\ud800\udc00b" + PAIR + "a");
         checkLine(clock, 3, "\ue000\udbff\udfff\ud7ff");
+        checkLine(clock, 4, "\ufffe\ud800\udc00\uffff");
     }
 
     private static void checkLine(TollClock clock, int party, String want) {

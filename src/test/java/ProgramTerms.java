@@ -26,7 +26,12 @@ final class ProgramTerms {
                 ProgramTerms::eachCharacterAtEachPlace);
         Edges.test(TERMS, "the length of the text if the text is a proper prefix of a program", ProgramTerms::eachPrefix);
         Edges.test(TERMS, "The 8 latest changes can be undone.", ProgramTerms::eightLatestChanges);
+        Edges.test(TERMS, "A change is a successful call of addParty, advance, addHoliday, removeHoliday, setRule,"
+                + " setServiceDays, serve, extendByConsent, extendByOrder, file, strike, stayParty, stayAll, lift,"
+                + " addOccurrence, linkOccurrences, fileClaim, amendClaim or run.", ProgramTerms::eachChangeIsUndone);
         Edges.test(TERMS, "A change is a successful call of", ProgramTerms::otherCallsAreNoChanges);
+        Edges.test(TERMS, "Everything becomes as it was before the change", ProgramTerms::holidaysAreThereAgain);
+        Edges.test(TERMS, "Everything becomes as it was before the change", ProgramTerms::partsAreGoneAgain);
         Edges.test(TERMS, "Everything becomes as it was before the change", ProgramTerms::undoOfAFullDocket);
         Edges.test(TERMS, "except the text buffer, the recorded error position, the recorded failed command and the"
                 + " output line", ProgramTerms::whatUndoLeaves);
@@ -235,6 +240,80 @@ final class ProgramTerms {
         Check.is("a change after them", 2, clock.addHoliday(1));
         Check.is("is undone", 0, clock.undo());
         Check.fails("and no other", IllegalStateException.class, clock::undo);
+    }
+
+    private static void eachChangeIsUndone() {
+        int kinds = changes(new TollClock()).length;
+        Check.is("kinds of changes", 19, kinds);
+        for (int kind = 0; kind < kinds; kind++) {
+            TollClock clock = withSomeOfAll();
+            String before = FullDocket.picture(clock);
+            changes(clock)[kind].answer();
+            Check.is("change " + kind + " is seen", false, before.equals(FullDocket.picture(clock)));
+            Check.is("undo of change " + kind, 7, clock.undo());
+            Check.is("after undo of change " + kind, before, FullDocket.picture(clock));
+        }
+    }
+
+    private static TollClock withSomeOfAll() {
+        TollClock clock = Check.withParties("a");
+        clock.serve(0, 0, 'm');
+        clock.stayAll(2);
+        clock.addOccurrence(0, 0);
+        clock.addOccurrence(0, 2);
+        clock.addHoliday(9);
+        clock.addHoliday(10);
+        clock.extendByConsent(0, 1);
+        clock.fileClaim(0, 0);
+        return clock;
+    }
+
+    private static Check.Call[] changes(TollClock clock) {
+        return new Check.Call[] {() -> Check.party(clock, "b"), () -> clock.advance(3), () -> clock.addHoliday(14),
+            () -> clock.removeHoliday(9), () -> clock.setRule(0, 11, true), () -> clock.setServiceDays('a', 15),
+            () -> clock.serve(0, 1, 'm'), () -> clock.extendByConsent(0, 4), () -> clock.extendByOrder(0, 5),
+            () -> clock.file(0), () -> clock.strike(0), () -> clock.stayParty(0, 1), () -> clock.stayAll(4),
+            () -> clock.lift(0), () -> clock.addOccurrence(0, 4), () -> clock.linkOccurrences(0, 1),
+            () -> clock.fileClaim(0, 1), () -> clock.amendClaim(0, 1), () -> Check.run(clock, "holiday 8;file 0")};
+    }
+
+    /** Each holiday that is removed is there again, whichever it was. */
+    private static void holidaysAreThereAgain() {
+        int[] days = {0, 3, 7, 11, 4999};
+        for (int removed : days) {
+            TollClock clock = new TollClock();
+            for (int day : days) {
+                clock.addHoliday(day);
+            }
+            clock.removeHoliday(removed);
+            clock.undo();
+            for (int day : days) {
+                Check.is("holiday " + day + " after undo of removing " + removed, false, clock.isCourtDay(day));
+            }
+            Check.is("all of them", 3567, clock.courtDaysByMarking(0, 4999));
+        }
+    }
+
+    /** However often an extension is undone, there is room for all of them. */
+    private static void partsAreGoneAgain() {
+        TollClock clock = Check.withParties("a");
+        clock.setRule(0, 4, false);
+        clock.serve(0, 0, 'm');
+        for (int round = 0; round < 10; round++) {
+            clock.extendByOrder(0, 100);
+            clock.extendByConsent(0, 28);
+            clock.undo();
+            clock.undo();
+            Check.is("due day after undo", 7, clock.due(0));
+            Check.is("days left after undo", 7, clock.daysLeft(0));
+        }
+        for (int count = 1; count <= 3; count++) {
+            Check.is("orders", 7 * count, clock.extendByOrder(0, 7));
+        }
+        Check.is("consent", 28, clock.extendByConsent(0, 7));
+        Check.is("second consent", 35, clock.extendByConsent(0, 7));
+        Check.is("due day", 42, clock.due(0));
+        Check.is("days left", 42, clock.daysLeftByMarking(0));
     }
 
     private static void otherCallsAreNoChanges() {

@@ -77,6 +77,7 @@ public final class TermsEdgesTest {
                 TermsEdgesTest::serviceOfNoneAndOneDay);
         Edges.test(TERMS, "for each extension, in the order in which they were granted",
                 TermsEdgesTest::extensionsInTheirOrder);
+        Edges.test(TERMS, "A deadline consists of parts", TermsEdgesTest::sevenPartsOfThirtyDeadlines);
     }
 
     private static void edgesOfCounting() {
@@ -127,6 +128,8 @@ public final class TermsEdgesTest {
                 TermsEdgesTest::stoppedUntilTheLastDay);
         Edges.test(TERMS, "A day is stopped for a deadline if at least one stay stops it.",
                 TermsEdgesTest::stoppedByOneOfSeveral);
+        Edges.test(TERMS, "A day is stopped for a deadline if at least one stay stops it.",
+                TermsEdgesTest::stoppedByTwelveStaysWithGaps);
     }
 
     private static void edgesOfOccurrences() {
@@ -319,7 +322,8 @@ public final class TermsEdgesTest {
 
     private static void highSurrogatesAreFollowed() {
         String[] texts = {"\ud800", "\udbff", "\ud800a", "a\udbff", "\ud800\ud800\udc00", "\udbff\ue000", "\ud800\udbff",
-            "\ud800\uffff", "1234567\udbff", "\ud800\udc00\ud800", "\ud83d\u0000"};
+            "\ud800\uffff", "1234567\udbff", "\ud800\udc00\ud800", "\ud83d\u0000", "\udbff\udbff", "\ud800\ue000",
+            "\udbff\ud7ff"};
         for (String text : texts) {
             noName(text);
         }
@@ -328,7 +332,7 @@ public final class TermsEdgesTest {
 
     private static void lowSurrogatesFollow() {
         String[] texts = {"\udc00", "\udfff", "\udc00a", "a\udfff", "\ud800\udc00\udc00", "\ud7ff\udc00", "\udc00\ud800",
-            "\ue000\udfff", "1234567\udc00", "\udfff\udbff\udfff"};
+            "\ue000\udfff", "1234567\udc00", "\udfff\udbff\udfff", "\udc00\udc00", "\udc00\udfff", "\udfff\udfff"};
         for (String text : texts) {
             noName(text);
         }
@@ -522,6 +526,30 @@ public final class TermsEdgesTest {
         // 5 -> 7, then 8, 10, 13 -> 14, 18, 23
         checkDue(all, 0, 23);
         checkLeft(all, 0, 20);
+    }
+
+    /** No part of a deadline is taken for one of the next. */
+    private static void sevenPartsOfThirtyDeadlines() {
+        TollClock clock = withRule(4, false);
+        for (int deadline = 0; deadline < 30; deadline++) {
+            clock.serve(0, 0, 'm');
+            for (int count = 0; count < 3; count++) {
+                clock.extendByOrder(deadline, 7);
+            }
+            clock.extendByConsent(deadline, 7);
+            clock.extendByConsent(deadline, 7);
+        }
+        for (int deadline = 0; deadline < 30; deadline++) {
+            checkDue(clock, deadline, 42);   // Friday 4, Monday 7 and five weeks
+            checkLeft(clock, deadline, 42);
+        }
+        Check.is("mean", 42.0, clock.meanDaysLeft());
+        Check.is("busiest day", 42, clock.busiestDay());
+        Check.is("last of the order", 29, clock.openAt(29));
+        clock.advance(43);
+        for (int deadline = 0; deadline < 30; deadline++) {
+            checkLeft(clock, deadline, 0);
+        }
     }
 
     private static void countingBeginsTheDayAfter() {
@@ -869,7 +897,8 @@ public final class TermsEdgesTest {
     }
 
     private static void stoppedFromOrderToLifting() {
-        int[][] stays = {{0, 1}, {0, 5}, {4, 5}, {62, 64}, {63, 65}, {64, 127}, {127, 129}};
+        int[][] stays = {{0, 1}, {0, 5}, {4, 5}, {62, 64}, {63, 65}, {63, 126}, {63, 127}, {63, 128}, {64, 127}, {127, 129},
+            {127, 190}, {127, 191}};
         for (int[] stay : stays) {
             TollClock clock = served(4, false, 'p');
             Check.goTo(clock, stay[0]);
@@ -910,6 +939,26 @@ public final class TermsEdgesTest {
         clock.stayParty(1, 1);               // of another party
         clock.stayAll(2);                    // of another rule
         checkStopped(clock, 1, 6);
+    }
+
+    private static void stoppedByTwelveStaysWithGaps() {
+        TollClock clock = served(20, false, 'p');
+        for (int stay = 0; stay < 12; stay++) {
+            clock.stayAll(1);
+            clock.advance(1);
+            if (stay < 11) {
+                clock.lift(stay);
+            }
+            clock.advance(1);
+        }
+        Check.is("odd days, and all from 23 on", 11 + 4999 - 22, clock.stoppedDays(0, 0, 4999));
+        Check.is("marked", 11 + 4999 - 22, clock.stoppedDaysByMarking(0, 0, 4999));
+        checkLeft(clock, 0, 9);
+        checkNoDue(clock, 0);
+        clock.lift(11);
+        Check.is("odd days and 24", 13, clock.stoppedDaysByMarking(0, 0, 4999));
+        checkDue(clock, 0, 35);              // Saturday 33 moves to Monday 35
+        checkLeft(clock, 0, 9);
     }
 
     private static void atMostEightOccurrences() {
