@@ -1412,11 +1412,11 @@ public final class TollClock {
         }
 
         int countGroups() {
-            int count = 0;
+            int different = 0;
             for (int occurrence = 0; occurrence < periods.count; occurrence++) {
-                count += groups[occurrence] == occurrence ? 1 : 0;
+                different += groups[occurrence] == occurrence ? 1 : 0;
             }
-            return count;
+            return different;
         }
 
         boolean inSameGroup(int one, int other) {
@@ -1583,6 +1583,7 @@ public final class TollClock {
             int day = from;
             int left = number;
             // A week has at most five court days: so the day that is looked for is never skipped.
+            // Both numbers of weeks are at least 1, so each step goes on.
             while (left > WORK_WEEK && day + WEEK <= LAST_DAY) {
                 int step = WEEK * Math.min((left - 1) / WORK_WEEK, (LAST_DAY - day) / WEEK);
                 left -= calendar.countCourt(day, day + step - 1);
@@ -1601,7 +1602,7 @@ public final class TollClock {
         /** Returns the first court day from a day on that is not stopped, or NO_DAY. */
         private int moveEnd(int end) {
             int day = skipRange(end);
-            while (day <= LAST_DAY && !calendar.isCourt(day)) {
+            for (int moves = 0; moves <= LAST_DAY && day <= LAST_DAY && !calendar.isCourt(day); moves++) {
                 day = skipRange(day + 1);
             }
             return day;
@@ -1628,6 +1629,7 @@ public final class TollClock {
         private int dayOfCountBack(int from, int number) {
             int day = from;
             int left = number;
+            // As in courtDayOfCount, no step skips the day, and each is at least a week.
             while (left > WORK_WEEK && day >= WEEK) {
                 int step = WEEK * Math.min((left - 1) / WORK_WEEK, day / WEEK);
                 left -= calendar.countCourt(day - step + 1, day);
@@ -1790,7 +1792,7 @@ public final class TollClock {
             count = 0;
             at = 0;
             boolean fits = readCommand(text);
-            while (fits && at < text.length && count < MAX_COMMANDS) {
+            for (int read = 1; fits && at < text.length && read < MAX_COMMANDS; read++) {
                 fits = readSign(text, ';') && readCommand(text);
             }
             return fits && at == text.length ? NONE : at;
